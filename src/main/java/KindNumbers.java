@@ -493,6 +493,7 @@ public final class KindNumbers {
 
         /** The quotient of two factors, moved up by 60 bits. */
         static long topOfQuotient(long a, long divisor) {
+            // The callers have answered for 0 already: this keeps a change there from dividing by it.
             if (divisor == 0) {
                 return 0;
             }
@@ -523,6 +524,7 @@ public final class KindNumbers {
 
         /** The rest of a, moved up by so many bits, by the divisor: a step at a time, as the whole has no room. */
         static long restAbove(long a, int above, long divisor) {
+            // The callers have answered for 0 already: this keeps a change there from dividing by it.
             if (divisor == 0) {
                 return 0;
             }
