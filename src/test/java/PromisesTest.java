@@ -1,4 +1,4 @@
-/** Promises 2 to 9: each sentence that names a boundary or a refused call, by calls written out. */
+/** Promises 2 to 8: each sentence that names a boundary or a refused call, by calls written out. */
 public final class PromisesTest {
     private static final long MINUS_ZERO = 0x8000000000000000L;
     private static final long FLOAT_MINUS_ZERO = 0x80000000L;
